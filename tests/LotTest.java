@@ -105,6 +105,7 @@ public final class LotTest {
         Due.puddles(x, 5);
         Due.eddies(x, 6);
         x.blow(3, 2, 7);
+        x.blow(23, 1, 8);
         x.hat(13, 4, 2);
         x.hat(47, 9, 1);
         x.come(7, 3, 2);
@@ -116,6 +117,7 @@ public final class LotTest {
         x.street(2, 6, 0);
         x.street(0, 30, 1);
         x.blow(3, 1, 1);
+        x.blow(23, 0, 0);
         x.force(0);
         x.does(0, 0, 31);
         x.does(0, 1, 0);
@@ -137,6 +139,7 @@ public final class LotTest {
                 Due.is("46: count(" + what + ")", x.count(what), counts[what]);
             }
             Due.is("46: gusts", x.wind(3), 27);
+            Due.is("46: the last gust", x.wind(23), 18);
             int[][] hats = {{4, 2, 1, 3}, {9, 1, 4, 7}};
             for (int h = 0; h < 2; h++) {
                 for (int what = 0; what < 4; what++) {

@@ -67,6 +67,13 @@ public final class OtherwiseTest {
         Due.is("33: 18 from second 0", x.save(0), 18);
         Due.puddles(x, 14);
         Due.is("33: 19", x.save(0), 19);
+        Due.puddles(x, 9);
+        Due.is("33: all day", x.save(0), 24);
+        x = new HatDownTheStreet();
+        x.hat(20, 8, 1);
+        x.blow(23, 1, 1);
+        Due.puddles(x, 9);
+        Due.is("33: in the last second", x.save(0), 2301);
     }
 
     private static void turned() {
@@ -89,6 +96,8 @@ public final class OtherwiseTest {
         Due.is("34: hat below", x.turned(-1, 0, 0), -5);
         x.blow(23, 4, 1);
         Due.is("34: the last second", x.turned(0, 23, 2), 2);
+        x.blow(0, 2, 1);
+        Due.is("34: behind what was ahead", x.turned(0, 23, 10), 2);
     }
 
     private static void lull() {
@@ -119,6 +128,28 @@ public final class OtherwiseTest {
         Due.is("35: caught at a lull", x.caught(0, 0), 2);
         Due.is("35: sooner", x.lull(0, 0, 0), 0);
         Due.is("35: gusts stay", x.wind(0), RIGHT + 1);
+        HatDownTheStreet y = new HatDownTheStreet();
+        y.hat(20, 9, 1);
+        y.come(10, 0, 0);
+        y.blow(22, 1, 1);
+        y.blow(23, 1, 1);
+        Due.is("35: had behind 23", y.lull(0, 0, 1), 23);
+        y.does(0, 0, 11);
+        y.street(0, 12, 1);
+        y.blow(21, 1, 1);
+        Due.is("35: had as it is", y.lull(0, 0, 0), -1);
+        y.does(0, 0, 9);
+        y.set(0, 0, 1);
+        y.blow(21, 4, 0);
+        y.blow(22, 2, 2);
+        y.blow(23, 2, 9);
+        y.does(0, 2, 0);
+        Due.is("35: by one square a second", y.lull(0, 0, 1), 23);
+        y.set(0, 0, 8);
+        y.does(0, 0, 10);
+        y.blow(22, 4, 0);
+        y.blow(23, 1, 1);
+        Due.is("35: not had, and by no lull", y.lull(0, 0, 1), -1);
         Due.is("35: what below", x.lull(0, 0, -1), -7);
         Due.is("35: what above", x.lull(0, 0, 2), -7);
         Due.is("35: hat ahead of what", x.lull(1, 0, 2), -5);
@@ -159,6 +190,23 @@ public final class OtherwiseTest {
         Due.is("36: what above", x.fence(0, 0, 2), -7);
         Due.is("36: hat ahead of what", x.fence(1, 0, 2), -5);
         Due.is("36: catcher ahead of what", x.fence(0, 1, 2), -5);
+        x = new HatDownTheStreet();
+        x.hat(20, 2, 1);
+        x.come(17, 0, 0);
+        x.street(2, 1, 1);
+        Due.gusts(x, LEFT + 1, LEFT + 1, DOWN + 1, DOWN + 1);
+        // To 1, there in an eddy up, then left by the eddy: in 0, down to 8, 16.
+        Due.is("36: it goes by square 0", x.track(0, 24), 1 << 2 | 1 << 1 | 1 | 1 << 8);
+        Due.is("36: not now", x.caught(0, 0), -1);
+        x.street(2, 1, 0);
+        Due.gusts(x, LEFT + 1, LEFT + 1, DOWN + 1, DOWN + 1);
+        Due.is("36: a wall in square 0", x.fence(0, 0, 0), 0);
+        Due.is("36: then it comes", x.fence(0, 0, 1), 4);
+        x = new HatDownTheStreet();
+        x.hat(20, 29, 1);
+        x.come(22, 0, 0);
+        Due.gusts(x, RIGHT + 1, RIGHT + 1, UP + 1);
+        Due.is("36: a wall in square 31", x.fence(0, 0, 0), 31);
         // The hat passes one by: only a wall that is there already is left out, puddles are not.
         x = new HatDownTheStreet();
         x.hat(0, 8, 1);

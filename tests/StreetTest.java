@@ -124,7 +124,7 @@ public final class StreetTest {
 
     private static void texts() {
         HatDownTheStreet x = new HatDownTheStreet();
-        Due.is("7: a fault", Due.text(x, "goes 1;turns 1;worth ;"), -121);
+        Due.is("7: a fault", Due.text(x, "goes 8;turns 8;worth ;"), -121);
         Due.is("7: the tape is empty behind it", x.count(7), 0);
         Due.is("7: no text came", x.count(5), 1);
         for (int t = 1; t < 6; t++) {
@@ -160,7 +160,23 @@ public final class StreetTest {
         fault("goes 1;turns 1;worth 1;;", 23);
         fault("goes 1;turns 1;worth 1; x", 24);
         fault("turns 1;goes 1;worth 1;", 0);
+        fault("goes 1;worth 1;turns 1;", 7);
+        fault("goes 1;turns 1;turns 1;", 15);
+        fault("goes 1;goes 1;worth 1;", 7);
         fault("goesstrength;turns 1;worth 1;", 0);
+        fault("goesz 1;turns 1;worth 1;", 0);
+        fault("goesa 1;turns 1;worth 1;", 0);
+        fault("goes 1;turns 1;worth 1;\0", 23);
+        fault("goes 1\u00ff;turns 1;worth 1;", 6);
+        fault("goes 1`;turns 1;worth 1;", 6);
+        fault("goes 1{;turns 1;worth 1;", 6);
+        fault("goes /;turns 1;worth 1;", 5);
+        fault("goes :;turns 1;worth 1;", 5);
+        fault(";".repeat(160), 0);
+        fault("(".repeat(160), 0);
+        fault("goes" + "1+".repeat(70) + "1;turns1;worth1", 159);
+        fault("goes" + "1+".repeat(70) + "1;turns1;worth1;", -1);
+        fault("goes" + "- ".repeat(70) + "1;turns1;worth1;", 14);
         fault("goes wind;turns 1;worth 1;", 5);
         fault("goes goes;turns 1;worth 1;", 5);
         fault("goes Strength;turns 1;worth 1;", 5);

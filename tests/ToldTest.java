@@ -103,6 +103,8 @@ public final class ToldTest {
         Due.is("39: not at all", x.lay(0, 0), 0);
         Due.sheet(x, 0);
         Due.is("39: nothing is told", x.lay(0, 0), 7);
+        Due.sheet(x, 0, 31, 31);
+        Due.is("39: in the last square", x.lay(0, 0), 7);
         Due.sheet(x, 0, 7, 7);
         Due.is("39: it stays at the edge", x.lay(0, 0), 7);
         Due.walls(x, 7);

@@ -188,6 +188,8 @@ public final class WhereTest {
         Due.is("16: not into one", x.told(2, 0), 18);
         Due.is("16: lies on its crown", x.told(2, 1), 0);
         Due.is("16: gusts stay", x.wind(0), RIGHT + 2);
+        Due.is("16: a puddle where no hat is any more", x.street(1, 0, 1), 0);
+        Due.is("16: counts nothing", x.pass(0), 2);
         x.set(2, 1, 1);
         Due.is("16: again by the same gusts", x.at(2, 1, 0), 20);
     }
@@ -277,6 +279,20 @@ public final class WhereTest {
         Due.eddies(x, 10, 26);
         Due.walls(x, 27, 25, 18);
         Due.is("20: ahead of a wall in an eddy", x.round(0, 0), 3);
+        x = new HatDownTheStreet();
+        x.hat(20, 0, 0);
+        x.hat(20, 31, 2);
+        x.blow(23, 1, 1);
+        Due.is("20: the last second counts", x.round(0, 0), 8);
+        Due.is("20: at the last square", x.round(1, 0), 1);
+        Due.is("20: the first square is remembered anew", x.round(0, 1), 1);
+        x = Due.withLaw("goes 1;turns 0;worth 0;");
+        x.hat(0, 0, 0);
+        Due.eddies(x, 0, 1);
+        x.set(0, 1, 1);
+        Due.gusts(x, LEFT, RIGHT);
+        // Left in an eddy is up: it stays; right in it is down; from there to and fro.
+        Due.is("20: out of an eddy", x.round(0, 0), 3);
     }
 
     private static void from() {
@@ -323,5 +339,11 @@ public final class WhereTest {
         }
         Due.walls(x, 0);
         Due.is("22: not of a wall", x.keeps(0, 0, 0), 1);
+        x = new HatDownTheStreet();
+        x.hat(0, 8, 1);
+        Due.gusts(x, DOWN + 9, RIGHT + 9);
+        Due.walls(x, 7, 15);
+        Due.is("22: all come to the last", x.keeps(0, 2, 0), 31);
+        Due.is("22: with its own", x.keeps(0, 2, 1), 30);
     }
 }

@@ -443,7 +443,6 @@ public final class HatDownTheStreet {
             think(h);
             mind.follow(errand.paths[h]);
         }
-        mind.walls = now.marks[WALL];
         errand.plan(mind, now.catchers[p], now.hatCount);
         return what == 0 ? errand.best : errand.end;
     }
