@@ -373,11 +373,9 @@ public final class HatDownTheStreet {
     }
 
     public int stand(int h, int p, int what) {
-        if (!isHat(h) || !isCatcher(p)) {
-            return NO_SUCH;
-        }
-        if (!isZeroOrOne(what)) {
-            return WRONG;
+        int refusal = refusalOfPair(h, p, what);
+        if (refusal != 0) {
+            return refusal;
         }
         think(h);
         mind.follow(mind.path);
@@ -541,11 +539,9 @@ public final class HatDownTheStreet {
     }
 
     public int lull(int h, int p, int what) {
-        if (!isHat(h) || !isCatcher(p)) {
-            return NO_SUCH;
-        }
-        if (!isZeroOrOne(what)) {
-            return WRONG;
+        int refusal = refusalOfPair(h, p, what);
+        if (refusal != 0) {
+            return refusal;
         }
         int first = hadNow(h, p);
         int best = NONE;
@@ -562,11 +558,9 @@ public final class HatDownTheStreet {
     }
 
     public int fence(int h, int p, int what) {
-        if (!isHat(h) || !isCatcher(p)) {
-            return NO_SUCH;
-        }
-        if (!isZeroOrOne(what)) {
-            return WRONG;
+        int refusal = refusalOfPair(h, p, what);
+        if (refusal != 0) {
+            return refusal;
         }
         int first = hadNow(h, p);
         int full = now.marks[WALL] | now.hatSquares() | now.catcherSquares();
@@ -587,12 +581,9 @@ public final class HatDownTheStreet {
     // ---- told ways
 
     public int judge(int s, int h) {
-        int refusal = refusalOfTold(s);
+        int refusal = refusalOfWay(s, h);
         if (refusal != 0) {
             return refusal;
-        }
-        if (!isHat(h)) {
-            return NO_SUCH;
         }
         think(h);
         return mind.elsewhere(rows[s], mind.start);
@@ -614,12 +605,9 @@ public final class HatDownTheStreet {
     }
 
     public int lay(int s, int h) {
-        int refusal = refusalOfTold(s);
+        int refusal = refusalOfWay(s, h);
         if (refusal != 0) {
             return refusal;
-        }
-        if (!isHat(h)) {
-            return NO_SUCH;
         }
         think(h);
         int lies = 0;
@@ -634,12 +622,9 @@ public final class HatDownTheStreet {
     }
 
     public int kinds(int s, int h, int sort) {
-        int refusal = refusalOfTold(s);
+        int refusal = refusalOfWay(s, h);
         if (refusal != 0) {
             return refusal;
-        }
-        if (!isHat(h)) {
-            return NO_SUCH;
         }
         if (!isZeroOrOne(sort)) {
             return WRONG;
@@ -661,12 +646,9 @@ public final class HatDownTheStreet {
     }
 
     public int laws(int s, int h) {
-        int refusal = refusalOfTold(s);
+        int refusal = refusalOfWay(s, h);
         if (refusal != 0) {
             return refusal;
-        }
-        if (!isHat(h)) {
-            return NO_SUCH;
         }
         think(h);
         int bits = 0;
@@ -945,6 +927,18 @@ public final class HatDownTheStreet {
             think(h);
             now.hats[h].state = mind.later(mind.start, 0, n);
         }
+    }
+
+    private int refusalOfPair(int h, int p, int what) {
+        if (!isHat(h) || !isCatcher(p)) {
+            return NO_SUCH;
+        }
+        return isZeroOrOne(what) ? 0 : WRONG;
+    }
+
+    private int refusalOfWay(int s, int h) {
+        int refusal = refusalOfTold(s);
+        return refusal == 0 && !isHat(h) ? NO_SUCH : refusal;
     }
 
     private int refusalOfTold(int s) {
