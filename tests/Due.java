@@ -1,16 +1,44 @@
+import java.util.ArrayList;
+import java.util.List;
+
 /** Counts answers that are not the due ones; what every test of the project shares. */
 final class Due {
+    /** Each place and the words of it that tests have told, by turns. */
+    static final List<String> SENTENCES = new ArrayList<>();
+
     private static int asked = 0;
     private static int wrong = 0;
+    private static String sentence = "";
 
     private Due() {
+    }
+
+    /**
+     * Tells to which promise or term the checks that follow belong, and which sentence of the document they would
+     * find broken. Sentences.java looks whether the words stand so in the document.
+     */
+    static void of(String place, String words) {
+        String now = place + ", \"" + words + "\": ";
+        if (!now.equals(sentence)) {
+            SENTENCES.add(place);
+            SENTENCES.add(words);
+        }
+        sentence = now;
     }
 
     static void is(String call, long got, long want) {
         asked++;
         if (got != want) {
             wrong++;
-            System.out.println(call + " answered " + got + ", due is " + want);
+            System.out.println(sentence + call + " answered " + got + ", due is " + want);
+        }
+    }
+
+    static void isNot(String call, long got, long refusal) {
+        asked++;
+        if (got == refusal) {
+            wrong++;
+            System.out.println(sentence + call + " answered " + got + ", which is not due");
         }
     }
 
@@ -18,7 +46,7 @@ final class Due {
         asked++;
         if (!is) {
             wrong++;
-            System.out.println("does not hold: " + what);
+            System.out.println(sentence + "does not hold: " + what);
         }
     }
 
@@ -62,6 +90,12 @@ final class Due {
         }
     }
 
+    static void everyGust(HatDownTheStreet x, int way, int how) {
+        for (int second = 0; second < 24; second++) {
+            x.blow(second, way, how);
+        }
+    }
+
     static void walls(HatDownTheStreet x, int... squares) {
         marks(x, 0, squares);
     }
@@ -80,11 +114,23 @@ final class Due {
         }
     }
 
+    static int bits(int... numbers) {
+        int bits = 0;
+        for (int i : numbers) {
+            bits |= 1 << i;
+        }
+        return bits;
+    }
+
     /** A sheet of ints that holds these numbers. */
     static void sheet(HatDownTheStreet x, int s, int... numbers) {
-        is("sheet(" + s + ", 2, " + numbers.length + ")", x.sheet(s, 2, numbers.length), 1);
+        sheetOf(x, s, 2, numbers);
+    }
+
+    static void sheetOf(HatDownTheStreet x, int s, int sort, int... numbers) {
+        is("sheet(" + s + ", " + sort + ", " + numbers.length + ")", x.sheet(s, sort, numbers.length), 1);
         for (int i = 0; i < numbers.length; i++) {
-            x.cell(s, i, numbers[i]);
+            is("cell(" + s + ", " + i + ", " + numbers[i] + ")", x.cell(s, i, numbers[i]), 1);
         }
     }
 }

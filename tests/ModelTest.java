@@ -85,7 +85,11 @@ public final class ModelTest {
         this.byModel = byModel;
     }
 
+    /** Behind its 512th call nothing is promised of an object, so none is made. */
     private long call(String name, int... numbers) throws Exception {
+        if (told.size() >= CALLS) {
+            return -1;
+        }
         Object[] args = Arrays.stream(numbers).boxed().toArray();
         long got = ((Number) byClass.get(name).invoke(x, args)).longValue();
         long want = ((Number) byModel.get(name).invoke(model, args)).longValue();

@@ -1,328 +1,439 @@
 /** Promises 1 to 9: the street, the law. */
 public final class StreetTest {
+    private static final int NONE = HatDownTheStreet.NONE, BAD = HatDownTheStreet.BAD;
+    private static final int STATE = HatDownTheStreet.STATE, FULL = HatDownTheStreet.FULL;
+
     public static void main(String[] args) {
         aNewObject();
+        objectsOfTheirOwn();
         street();
-        blowAndWind();
+        streetRefused();
+        wallsThatCome();
+        blow();
+        wind();
         count();
         feed();
-        texts();
-        faults();
-        opens();
+        feedRefused();
+        text();
+        aFaultOnly();
+        textFull();
         force();
         asks();
-        values();
+        asksOfTheLaw();
+        asksAtItsEdges();
         Due.end();
     }
 
-    private static void aNewObject() {
-        HatDownTheStreet x = new HatDownTheStreet();
+    private static void isEmpty(HatDownTheStreet x) {
         for (int what = 0; what < 8; what++) {
-            Due.is("1: count(" + what + ")", x.count(what), what == 5 ? 1 : 0);
+            Due.is("count(" + what + ")", x.count(what), what == 5 ? 1 : 0);
         }
         for (int second = 0; second < 24; second++) {
-            Due.is("1: wind(" + second + ")", x.wind(second), 40);
+            Due.is("wind(" + second + ")", x.wind(second), 40);
         }
         for (int s = 0; s < 4; s++) {
-            Due.is("1: cell(" + s + ", 0, 0)", x.cell(s, 0, 0), -11);
+            Due.is("cell(" + s + ", 0, 0)", x.cell(s, 0, 0), -11);
         }
-        Due.is("1: back()", x.back(), HatDownTheStreet.STATE);
+        Due.is("told(0, 0)", x.told(0, 0), -5);
+        Due.is("does(0, 0, 0)", x.does(0, 0, 0), -5);
+        Due.is("back()", x.back(), STATE);
+        Due.is("asks: goes", x.asks(0, 70, 0, 0, 0), 7);
+        Due.is("asks: turns", x.asks(1, 70, 0, 0, 0), 1);
+        Due.is("asks: worth", x.asks(2, 70, 0, 4, 0), 26);
+        Due.is("force(1)", x.force(1), BAD);
+        Due.is("text()", x.text(), -100);
+    }
+
+    private static void aNewObject() {
+        Due.of("Promise 1", "An empty street, no GUSTS.");
+        isEmpty(new HatDownTheStreet());
+    }
+
+    private static void objectsOfTheirOwn() {
+        Due.of("Promise 1", "An empty street, no GUSTS.");
+        HatDownTheStreet before = new HatDownTheStreet();
+        HatDownTheStreet x = Furnished.street();
+        isEmpty(before);
+        isEmpty(new HatDownTheStreet());
+        Furnished.isAsItWas("what other objects were asked", x);
+        // Two that differ in a text, an image, a sheet and the tape.
+        HatDownTheStreet[] two = {new HatDownTheStreet(), new HatDownTheStreet()};
+        for (int i = 0; i < 2; i++) {
+            Due.text(two[i], "goes " + (i + 3) + ";turns 1;worth 1;");
+            two[i].force(1);
+            two[i].hat(20, 10 + i, 0);
+            two[i].image();
+            two[i].set(0, 0, 0);
+            two[i].sheet(0, i, 5);
+            two[i].feed(i + 1, 32, 32, 32, 32, 32);
+        }
+        for (int i = 0; i < 2; i++) {
+            Due.is("its own text", two[i].asks(0, 0, 0, 0, 0), i + 3);
+            Due.is("its own image", two[i].back() + two[i].told(0, 0), 1 + 10 + i);
+            Due.is("its own sheet", two[i].gustsBy(0, i, 0, 0), 0);
+            Due.is("its own tape", two[i].count(7), i + 1);
+        }
     }
 
     private static void street() {
+        Due.of("Promise 2", "In a SQUARE there is what 0 a WALL, 1 a PUDDLE, 2 an EDDY (1), or not (0): what it was.");
+        for (int what = 0; what < 3; what++) {
+            HatDownTheStreet x = new HatDownTheStreet();
+            for (int c = 0; c < 32; c++) {
+                Due.is("it is not there", x.street(what, c, 0), 0);
+                Due.is("it comes", x.street(what, c, 1), 0);
+                Due.is("it is there", x.street(what, c, 1), 1);
+                Due.is("its bit alone", x.count(2 + what), 1 << c);
+                for (int other = 0; other < 3; other++) {
+                    Due.is("of what " + other, x.count(2 + other), other == what ? 1 << c : 0);
+                }
+                Due.is("it goes", x.street(what, c, 0), 1);
+                Due.is("it is gone", x.street(what, c, 0), 0);
+                Due.is("no bit", x.count(2 + what), 0);
+            }
+        }
         HatDownTheStreet x = new HatDownTheStreet();
         for (int what = 0; what < 3; what++) {
-            Due.is("2: comes", x.street(what, 31, 1), 0);
-            Due.is("2: stays", x.street(what, 31, 1), 1);
-            Due.is("2: bits", x.count(2 + what), 1 << 31);
-            Due.is("2: goes", x.street(what, 31, 0), 1);
-            Due.is("2: stays gone", x.street(what, 31, 0), 0);
-            Due.is("2: bits", x.count(2 + what), 0);
-            Due.is("2: square 0", x.street(what, 0, 1), 0);
-            Due.is("2: bit 0", x.count(2 + what), 1);
+            Due.is("all three in one square", x.street(what, 12, 1), 0);
         }
-        Due.is("2: what below", x.street(-1, 0, 0), HatDownTheStreet.NONE);
-        Due.is("2: what above", x.street(3, 0, 0), HatDownTheStreet.NONE);
-        Due.is("2: what ahead of square", x.street(3, 32, 2), HatDownTheStreet.NONE);
-        Due.is("2: square below", x.street(0, -1, 0), HatDownTheStreet.BAD);
-        Due.is("2: square above", x.street(0, 32, 0), HatDownTheStreet.BAD);
-        Due.is("2: is above", x.street(0, 1, 2), HatDownTheStreet.BAD);
-        Due.is("2: is below", x.street(0, 1, -1), HatDownTheStreet.BAD);
-        x.hat(0, 5, 0);
-        x.come(6, 1, 1);
-        Due.is("2: a hat is there", x.street(0, 5, 1), HatDownTheStreet.STATE);
-        Due.is("2: a catcher is there", x.street(0, 6, 1), HatDownTheStreet.STATE);
-        Due.is("2: is ahead of the hat", x.street(0, 5, 2), HatDownTheStreet.BAD);
-        Due.is("2: no wall comes", x.street(0, 5, 0), 0);
-        Due.is("2: a puddle comes", x.street(1, 5, 1), 0);
-        Due.is("2: an eddy comes", x.street(2, 6, 1), 0);
-        Due.is("2: walls as they were", x.count(2), 1);
-        x.set(0, 0, 7);
-        Due.is("2: where a hat was", x.street(0, 5, 1), 0);
+        for (int what = 0; what < 3; what++) {
+            for (int other = 0; other < 3; other++) {
+                int c = 13 + 3 * what + other;
+                x.street(what, c, 1);
+                x.street(other, c, 1);
+                Due.is("what comes first stays", x.count(2 + what) >>> c & 1, 1);
+                Due.is("what comes then is there", x.count(2 + other) >>> c & 1, 1);
+                x.street(other, c, 0);
+                Due.is("and goes alone", x.count(2 + what) >>> c & 1, what == other ? 0 : 1);
+            }
+        }
+        Due.is("a puddle goes", x.street(1, 12, 0), 1);
+        Due.is("the wall stays", x.street(0, 12, 1), 1);
+        Due.is("the eddy stays", x.street(2, 12, 1), 1);
     }
 
-    private static void blowAndWind() {
+    private static void streetRefused() {
+        Due.of("Promise 2", "NONE: what; BAD: SQUARE, is; STATE: a HAT, a CATCHER is there (of a WALL that comes).");
         HatDownTheStreet x = new HatDownTheStreet();
-        Due.is("3: first", x.blow(0, 0, 9), 40);
-        Due.is("3: again", x.blow(0, 4, 3), 9);
-        Due.is("3: of a still one", x.blow(0, 3, 0), 43);
-        Due.is("3: last second", x.blow(23, 2, 1), 40);
-        Due.is("4: second 0", x.wind(0), 30);
-        Due.is("4: second 23", x.wind(23), 21);
-        Due.is("3: second below", x.blow(-1, 0, 0), -5);
-        Due.is("3: second above", x.blow(24, 0, 0), -5);
-        Due.is("3: second ahead of way", x.blow(24, 5, 10), -5);
-        Due.is("3: way below", x.blow(0, -1, 0), -7);
-        Due.is("3: way above", x.blow(0, 5, 0), -7);
-        Due.is("3: strength below", x.blow(0, 0, -1), -7);
-        Due.is("3: strength above", x.blow(0, 0, 10), -7);
-        Due.is("3: as it was", x.wind(0), 30);
-        Due.is("4: below", x.wind(-1), -5);
-        Due.is("4: above", x.wind(24), -5);
+        x.hat(0, 5, 0);
+        for (int what : new int[] {-1, 3, Integer.MIN_VALUE, Integer.MAX_VALUE}) {
+            Due.is("what " + what, x.street(what, 0, 0), NONE);
+            Due.is("ahead of square", x.street(what, 32, 0), NONE);
+            Due.is("ahead of is", x.street(what, 0, 2), NONE);
+            Due.is("ahead of a hat", x.street(what, 5, 1), NONE);
+        }
+        for (int what = 0; what < 3; what++) {
+            Due.is("square below", x.street(what, -1, 0), BAD);
+            Due.is("square above", x.street(what, 32, 0), BAD);
+            Due.is("is above", x.street(what, 1, 2), BAD);
+            Due.is("is below", x.street(what, 1, -1), BAD);
+            Due.is("is above where a hat is", x.street(what, 5, 2), BAD);
+        }
+        Due.is("nothing came", x.count(2) | x.count(3) | x.count(4), 0);
+    }
+
+    private static void wallsThatCome() {
+        Due.of("Promise 2", "STATE: a HAT, a CATCHER is there (of a WALL that comes).");
+        HatDownTheStreet x = new HatDownTheStreet();
+        for (int k = 0; k < 4; k++) {
+            x.hat(0, k, 0);
+            x.come(28 + k, 1, 1);
+        }
+        for (int c = 0; c < 32; c++) {
+            Due.is("a wall in " + c, x.street(0, c, 1), c < 4 || c > 27 ? STATE : 0);
+        }
+        Due.is("walls", x.count(2), 0x0FFFFFF0);
+        for (int c : new int[] {0, 3, 28, 31}) {
+            Due.is("none comes", x.street(0, c, 0), 0);
+            Due.is("a puddle comes", x.street(1, c, 1), 0);
+            Due.is("an eddy comes", x.street(2, c, 1), 0);
+        }
+        for (int c = 4; c < 28; c++) {
+            x.street(0, c, 0);
+        }
+        x.set(1, 0, 7);
+        Due.is("where a hat came", x.street(0, 7, 1), STATE);
+        Due.is("where it was", x.street(0, 1, 1), 0);
+        x.does(1, 0, 20);
+        Due.is("where a catcher came", x.street(0, 20, 1), STATE);
+        Due.is("where one was", x.street(0, 29, 1), 0);
+        x.does(0, 0, 3);
+        x.does(0, 2, 3);
+        Due.is("a hat is had", x.run(3, 0), 0);
+        Due.is("the catcher is there", x.street(0, 3, 1), STATE);
+        x.does(0, 0, 20);
+        Due.is("no hat is there any more", x.street(0, 3, 1), 0);
+        Due.is("where none is yet, but will be", x.street(0, 8, 1), 0);
+    }
+
+    private static void blow() {
+        Due.of("Promise 3", "The GUST of a SECOND (WAY, STRENGTH): 10 times the WAY, and STRENGTH, as they were.");
+        HatDownTheStreet x = new HatDownTheStreet();
+        Due.is("at first", x.blow(0, 0, 9), 40);
+        Due.is("then", x.blow(0, 4, 3), 9);
+        Due.is("of none", x.blow(0, 3, 0), 43);
+        Due.is("the last second", x.blow(23, 2, 1), 40);
+        Due.is("again", x.blow(23, 4, 9), 21);
+        Due.is("as it was", x.blow(23, 0, 0), 49);
+        Due.is("second 0", x.wind(0), 30);
+        Due.is("second 23", x.wind(23), 0);
+        for (int second = 1; second < 23; second++) {
+            Due.is("no other second", x.wind(second), 40);
+        }
+        Due.of("Promise 3", "-5: no such SECOND; -7: the others.");
+        for (int second : new int[] {-1, 24, Integer.MIN_VALUE, Integer.MAX_VALUE}) {
+            Due.is("second " + second, x.blow(second, 0, 0), -5);
+            Due.is("ahead of way", x.blow(second, 5, 0), -5);
+            Due.is("ahead of strength", x.blow(second, 0, 10), -5);
+        }
+        Due.is("way below", x.blow(0, -1, 0), -7);
+        Due.is("way above", x.blow(0, 5, 0), -7);
+        Due.is("strength below", x.blow(0, 0, -1), -7);
+        Due.is("strength above", x.blow(0, 0, 10), -7);
+        Due.is("as it was", x.wind(0), 30);
+    }
+
+    private static void wind() {
+        Due.of("Promise 4", "10 times the WAY, and STRENGTH.");
+        HatDownTheStreet x = new HatDownTheStreet();
+        for (int second = 0; second < 24; second++) {
+            x.blow(second, second % 5, 9 - second % 10);
+        }
+        for (int second = 0; second < 24; second++) {
+            Due.is("wind(" + second + ")", x.wind(second), 10 * (second % 5) + 9 - second % 10);
+        }
+        Due.of("Promise 4", "-5: no such SECOND.");
+        for (int second : new int[] {-1, 24, Integer.MIN_VALUE, Integer.MAX_VALUE}) {
+            Due.is("wind(" + second + ")", x.wind(second), -5);
+        }
     }
 
     private static void count() {
+        Due.of("Promise 5", "0 HATS, 1 CATCHERS, 2 SQUARES with WALLS, 3 PUDDLES, 4 EDDIES (bits), 5 TEXTS, 6 THE LAW, 7 bytes of THE TAPE.");
         HatDownTheStreet x = new HatDownTheStreet();
         x.hat(0, 0, 0);
         x.hat(0, 0, 0);
         x.come(0, 0, 0);
         Due.walls(x, 3, 31);
-        Due.puddles(x, 4, 5);
-        Due.eddies(x, 6);
+        Due.puddles(x, 4, 5, 31);
+        Due.eddies(x, 6, 31, 0);
         Due.text(x, "goes 1;turns 1;worth 1;");
-        x.force(1);
+        Due.text(x, "goes 1;turns 1;worth 1;");
+        x.force(2);
         x.feed(3, 32, 32, 32, 0, 0);
-        int[] due = {2, 1, 1 << 31 | 8, 48, 64, 2, 1, 3};
+        int[] due = {2, 1, Due.bits(31, 3), Due.bits(4, 5, 31), Due.bits(0, 6, 31), 3, 2, 3};
         for (int what = 0; what < due.length; what++) {
-            Due.is("5: count(" + what + ")", x.count(what), due[what]);
+            Due.is("count(" + what + ")", x.count(what), due[what]);
         }
-        Due.is("5: below", x.count(-1), HatDownTheStreet.BAD);
-        Due.is("5: above", x.count(8), HatDownTheStreet.BAD);
+        Due.of("Promise 5", "7 bytes of THE TAPE. BAD.");
+        for (int what : new int[] {-1, 8, Integer.MIN_VALUE, Integer.MAX_VALUE}) {
+            Due.is("count(" + what + ")", x.count(what), BAD);
+        }
     }
 
     private static void feed() {
+        Due.of("Promise 6", "The first n (1 .. 5) of five bytes (0 .. 255 each) come behind THE TAPE's, one by one: how many it has.");
         HatDownTheStreet x = new HatDownTheStreet();
-        Due.is("6: n below", x.feed(0, 0, 0, 0, 0, 0), HatDownTheStreet.BAD);
-        Due.is("6: n above", x.feed(6, 0, 0, 0, 0, 0), HatDownTheStreet.BAD);
+        Due.is("one", x.feed(1, 0, 255, 255, 255, 255), 1);
+        Due.is("two", x.feed(2, 0, 255, 0, 0, 0), 3);
+        Due.is("three", x.feed(3, 0, 255, 0, 0, 0), 6);
+        Due.is("four", x.feed(4, 0, 255, 0, 0, 0), 10);
+        Due.is("five", x.feed(5, 255, 255, 255, 255, 255), 15);
+        Due.is("so many", x.count(7), 15);
+        // Only the first n come, and in their order.
+        String text = "goes 1;turns 2;worth 3;";
+        for (int n = 1; n <= 5; n++) {
+            x = new HatDownTheStreet();
+            for (int i = 0; i < text.length(); i += n) {
+                int[] b = {'?', '?', '?', '?', '?'};
+                int many = Math.min(n, text.length() - i);
+                for (int k = 0; k < many; k++) {
+                    b[k] = text.charAt(i + k);
+                }
+                Due.is("by " + n, x.feed(many, b[0], b[1], b[2], b[3], b[4]), i + many);
+            }
+            Due.is("a text by " + n, x.text(), 1);
+            x.force(1);
+            Due.is("goes", x.asks(0, 0, 0, 0, 0), 1);
+            Due.is("turns", x.asks(1, 0, 0, 0, 0), 2);
+            Due.is("worth", x.asks(2, 0, 0, 0, 0), 3);
+        }
+    }
+
+    private static void feedRefused() {
+        Due.of("Promise 6", "BAD: n, any of the five; FULL: they have not all room (none comes).");
+        HatDownTheStreet x = new HatDownTheStreet();
+        for (int n : new int[] {0, -1, 6, Integer.MIN_VALUE, Integer.MAX_VALUE}) {
+            Due.is("n " + n, x.feed(n, 32, 32, 32, 32, 32), BAD);
+        }
         for (int k = 0; k < 5; k++) {
-            for (int v : new int[] {-1, 256}) {
+            for (int v : new int[] {-1, 256, Integer.MIN_VALUE, Integer.MAX_VALUE}) {
                 int[] b = new int[5];
                 b[k] = v;
-                Due.is("6: byte " + k, x.feed(1, b[0], b[1], b[2], b[3], b[4]), HatDownTheStreet.BAD);
+                Due.is("byte " + k + ", also if only one comes", x.feed(1, b[0], b[1], b[2], b[3], b[4]), BAD);
+                Due.is("byte " + k + " of five", x.feed(5, b[0], b[1], b[2], b[3], b[4]), BAD);
             }
         }
-        Due.is("6: 0 and 255 are bytes", x.feed(2, 0, 255, 255, 0, 255), 2);
-        for (int i = 1; i < 32; i++) {
-            Due.is("6: five", x.feed(5, 32, 32, 32, 32, 32), 2 + 5 * i);
+        Due.is("none came", x.count(7), 0);
+        for (int i = 1; i <= 31; i++) {
+            Due.is("five", x.feed(5, 32, 32, 32, 32, 32), 5 * i);
         }
-        Due.is("6: no room", x.feed(4, 32, 32, 32, 32, 32), HatDownTheStreet.FULL);
-        Due.is("6: bytes ahead of room", x.feed(4, 256, 32, 32, 32, 32), HatDownTheStreet.BAD);
-        Due.is("6: none came", x.count(7), 157);
-        Due.is("6: just room", x.feed(3, 32, 32, 32, 32, 32), 160);
-        Due.is("6: full", x.feed(1, 32, 32, 32, 32, 32), HatDownTheStreet.FULL);
+        Due.is("two", x.feed(2, 32, 32, 32, 32, 32), 157);
+        Due.is("no room for five", x.feed(5, 32, 32, 32, 32, 32), FULL);
+        Due.is("no room for four", x.feed(4, 32, 32, 32, 32, 32), FULL);
+        Due.is("bytes ahead of room", x.feed(4, 256, 32, 32, 32, 32), BAD);
+        Due.is("n ahead of room", x.feed(6, 32, 32, 32, 32, 32), BAD);
+        Due.is("none came", x.count(7), 157);
+        Due.is("just room for three", x.feed(3, 32, 32, 32, 32, 32), 160);
+        Due.is("full", x.feed(1, 32, 32, 32, 32, 32), FULL);
+        Due.is("160", x.count(7), 160);
+        // None of four came where three had room: the text ends as it began.
+        x = new HatDownTheStreet();
+        String text = "goes 1;turns 1;worth 1";
+        Due.feedAll(x, text + " ".repeat(157 - text.length()));
+        Due.is("four have no room", x.feed(4, ';', '?', '?', '?', 0), FULL);
+        Due.is("one has", x.feed(1, ';', '?', '?', '?', '?'), 158);
+        Due.is("none of the four came", x.text(), 1);
     }
 
-    private static void texts() {
+    private static void text() {
+        Due.of("Promise 7", "THE TAPE, which is empty then (by a FAULT, too), is a TEXT: its number; -100 less the place of its FAULT.");
         HatDownTheStreet x = new HatDownTheStreet();
-        Due.is("7: a fault", Due.text(x, "goes 8;turns 8;worth ;"), -121);
-        Due.is("7: the tape is empty behind it", x.count(7), 0);
-        Due.is("7: no text came", x.count(5), 1);
+        Due.is("an empty tape", x.text(), -100);
+        Due.is("a fault", Due.text(x, "goes 8;turns 8;worth ;"), -121);
+        Due.is("the tape is empty behind it", x.count(7), 0);
+        Due.is("no text came", x.count(5), 1);
+        Due.is("THE LAW stays", x.count(6), 0);
         for (int t = 1; t < 6; t++) {
-            Due.is("7: number", Due.text(x, "goes " + t + ";turns 1;worth 1;"), t);
-            Due.is("7: the tape is empty", x.count(7), 0);
+            Due.is("its number", Due.text(x, "goes " + t + ";turns " + t + ";worth " + t + ";"), t);
+            Due.is("the tape is empty", x.count(7), 0);
+            Due.is("so many", x.count(5), t + 1);
+            Due.is("THE LAW stays", x.count(6), 0);
         }
-        Due.is("7: texts", x.count(5), 6);
-        x.feed(1, 'A', 0, 0, 0, 0);
-        Due.is("7: full ahead of the fault", x.text(), HatDownTheStreet.FULL);
-        Due.is("7: the tape stays", x.count(7), 1);
-        Due.is("7: the law stays", x.count(6), 0);
         for (int t = 1; t < 6; t++) {
             x.force(t);
-            Due.is("7: each is its own", x.asks(0, 0, 0, 0, 0), t);
+            Due.is("goes of " + t, x.asks(0, 0, 0, 0, 0), t);
+            Due.is("turns of " + t, x.asks(1, 0, 0, 0, 0), t % 3);
+            Due.is("worth of " + t, x.asks(2, 0, 0, 0, 0), t);
         }
         x.force(0);
-        Due.is("7: text 0 stays", x.asks(0, 70, 0, 0, 0), 7);
+        Due.is("text 0 stays", x.asks(0, 70, 0, 0, 0), 7);
+        x = new HatDownTheStreet();
+        Due.is("place 0", Due.text(x, "?"), -100);
+        Due.is("place 1", Due.text(x, " ?"), -101);
+        Due.is("place 159", Due.text(x, " ".repeat(159) + "?"), -259);
+        Due.is("place 160", Due.text(x, " ".repeat(160)), -260);
     }
 
-    private static void fault(String text, int place) {
+    /** A text by which a fault comes late leaves nothing in the next one, nor in that by which it goes. */
+    private static void aFaultOnly() {
+        Due.of("Promise 7", "THE TAPE, which is empty then (by a FAULT, too), is a TEXT: its number; -100 less the place of its FAULT.");
+        HatDownTheStreet x = Due.withLaw("goes 4;turns 2;worth 44;");
+        Due.is("a late fault", Due.text(x, "goes 5;turns 1;worth 55;?"), -124);
+        Due.is("goes still", x.asks(0, 0, 0, 0, 0), 4);
+        Due.is("turns still", x.asks(1, 0, 0, 0, 0), 2);
+        Due.is("worth still", x.asks(2, 0, 0, 0, 0), 44);
+        Due.is("a text behind it", Due.text(x, "goes 1;turns 0;worth 7;"), 2);
+        Due.is("which is forced", x.force(2), 1);
+        Due.is("goes", x.asks(0, 0, 0, 0, 0), 1);
+        Due.is("turns", x.asks(1, 0, 0, 0, 0), 0);
+        Due.is("worth", x.asks(2, 0, 0, 0, 0), 7);
+    }
+
+    private static void textFull() {
+        Due.of("Promise 7", "FULL (ahead of the FAULT; then THE TAPE stays).");
         HatDownTheStreet x = new HatDownTheStreet();
-        Due.is("7: fault of '" + text + "'", Due.text(x, text), place < 0 ? 1 : -100 - place);
-    }
-
-    private static void faults() {
-        fault("", 0);
-        fault("  \n", 3);
-        fault("goes", 4);
-        fault("goes ", 5);
-        fault("goes 1;turns 1;worth 1", 22);
-        fault("goes 1;turns 1;worth 1;", -1);
-        fault(" goes1\n;turns\n1;worth1 ; \n ", -1);
-        fault("goes 1;turns 1;worth 1;;", 23);
-        fault("goes 1;turns 1;worth 1; x", 24);
-        fault("turns 1;goes 1;worth 1;", 0);
-        fault("goes 1;worth 1;turns 1;", 7);
-        fault("goes 1;turns 1;turns 1;", 15);
-        fault("goes 1;goes 1;worth 1;", 7);
-        fault("goesstrength;turns 1;worth 1;", 0);
-        fault("goesz 1;turns 1;worth 1;", 0);
-        fault("goesa 1;turns 1;worth 1;", 0);
-        fault("goes 1;turns 1;worth 1;\0", 23);
-        fault("goes 1\u00ff;turns 1;worth 1;", 6);
-        fault("goes 1`;turns 1;worth 1;", 6);
-        fault("goes 1{;turns 1;worth 1;", 6);
-        fault("goes /;turns 1;worth 1;", 5);
-        fault("goes :;turns 1;worth 1;", 5);
-        fault(";".repeat(160), 0);
-        fault("(".repeat(160), 0);
-        fault("goes" + "1+".repeat(70) + "1;turns1;worth1", 159);
-        fault("goes" + "1+".repeat(70) + "1;turns1;worth1;", -1);
-        fault("goes" + "- ".repeat(70) + "1;turns1;worth1;", 14);
-        fault("goes wind;turns 1;worth 1;", 5);
-        fault("goes goes;turns 1;worth 1;", 5);
-        fault("goes Strength;turns 1;worth 1;", 5);
-        fault("goes 1\t;turns 1;worth 1;", 6);
-        fault("goes 1\r;turns 1;worth 1;", 6);
-        fault("goes 9999;turns 1;worth 1;", -1);
-        fault("goes 00001;turns 1;worth 1;", 5);
-        fault("goes 1 2;turns 1;worth 1;", 7);
-        fault("goes 12ab;turns 1;worth 1;", 7);
-        fault("goes 1more;turns 1;worth 1;", 6);
-        fault("goes 1 + ;turns 1;worth 1;", 9);
-        fault("goes 1 + not 1;turns 1;worth 1;", 9);
-        fault("goes 1 < 2 < 3;turns 1;worth 1;", 11);
-        fault("goes 1 = 2 < 3;turns 1;worth 1;", 11);
-        fault("goes 1 < not 2;turns 1;worth 1;", 9);
-        fault("goes (1 < 2) < 3;turns 1;worth 1;", -1);
-        fault("goes not 1 < 2 and not not 0 or 1;turns 1;worth 1;", -1);
-        fault("goes - not 1;turns 1;worth 1;", 7);
-        fault("goes +1;turns 1;worth 1;", 5);
-        fault("goes 1 - - 1;turns 1;worth 1;", -1);
-        fault("goes 2 * - 1;turns 1;worth 1;", -1);
-        fault("goes ();turns 1;worth 1;", 6);
-        fault("goes (1;turns 1;worth 1;", 7);
-        fault("goes 1);turns 1;worth 1;", 6);
-        fault("goes 1 or or 1;turns 1;worth 1;", 10);
-        fault("goes 1 and;turns 1;worth 1;", 10);
-        fault("goes 1/2;turns 1;worth 1;", 6);
-        fault("goes 1 > 2;turns 1;worth 1;", 7);
-        fault("goes 1 2 ?;turns 1;worth 1;", 7);
-        StringBuilder long160 = new StringBuilder("goes 1;turns 1;worth 1");
-        while (long160.length() < 159) {
-            long160.append(' ');
+        for (int t = 1; t < 5; t++) {
+            Due.is("text " + t, Due.text(x, "goes 1;turns 1;worth 1;"), t);
         }
-        fault(long160 + ";", -1);
-        fault(long160 + "1", 159);
-    }
-
-    private static void opens() {
-        String tail = ";turns 1;worth 1;";
-        fault("goes (((((1)))))" + tail, -1);
-        fault("goes ((((((1))))))" + tail, 10);
-        fault("goes -----1" + tail, -1);
-        fault("goes ------1" + tail, 10);
-        fault("goes not not not not not 1" + tail, -1);
-        fault("goes not not not not not not 1" + tail, 25);
-        fault("goes not(-(-1))" + tail, -1);
-        fault("goes not(-(-(1)))" + tail, 12);
-        fault("goes not(-(-(1)))".replace("not", "") + tail, -1);
-        fault("goes ((((1)+(1))))+((((1))))" + tail, -1);
-        fault("goes ((((1+(-1)))))" + tail, 12);
-        fault("goes ((((1)+-1)))" + tail, -1);
-        fault("goes not 1 + -1 and not ((((1))))" + tail, -1);
-        fault("goes not ((((1 < -1))))" + tail, 17);
-        fault("goes not ((((1)))) and -----1" + tail, -1);
-        fault("goes ((((not 1 and not 1))))" + tail, -1);
-        fault("goes ((((not 1 and not -1))))" + tail, 23);
-        // The most that can wait for a right side at once.
-        fault("goes 1or1and1<1+1*(1or1and1<1+1*(1or1and1<1+1*(1or1and1<1+1*(1or1and1<1+1*(1or1and1<1+1*1)))))" + tail, -1);
+        Due.is("a fault while there is room", Due.text(x, "?"), -100);
+        Due.is("the last", Due.text(x, "goes 1;turns 1;worth 1;"), 5);
+        Due.is("an empty tape", x.text(), FULL);
+        Due.is("ahead of the fault", Due.text(x, "A"), FULL);
+        Due.is("the tape stays", x.count(7), 1);
+        Due.is("as it is", x.feed(2, 'B', 'C', 0, 0, 0), 3);
+        Due.is("still full", x.text(), FULL);
+        Due.is("it stays still", x.count(7), 3);
+        Due.is("six", x.count(5), 6);
+        Due.is("THE LAW stays", x.count(6), 0);
     }
 
     private static void force() {
+        Due.of("Promise 8", "A TEXT is THE LAW: which was. BAD.");
         HatDownTheStreet x = new HatDownTheStreet();
-        Due.is("8: text 0", x.force(0), 0);
-        Due.is("8: none yet", x.force(1), HatDownTheStreet.BAD);
+        Due.is("text 0", x.force(0), 0);
+        Due.is("none yet", x.force(1), BAD);
         Due.text(x, "goes 1;turns 1;worth 1;");
-        Due.is("8: text 1", x.force(1), 0);
-        Due.is("8: which was", x.force(0), 1);
-        Due.is("8: below", x.force(-1), HatDownTheStreet.BAD);
-        Due.is("8: above", x.force(2), HatDownTheStreet.BAD);
-        Due.is("8: the law stays", x.count(6), 0);
+        Due.is("text 1", x.force(1), 0);
+        Due.is("THE LAW", x.count(6), 1);
+        Due.is("again", x.force(1), 1);
+        Due.is("which was", x.force(0), 1);
+        for (int t : new int[] {-1, 2, 6, Integer.MIN_VALUE, Integer.MAX_VALUE}) {
+            Due.is("force(" + t + ")", x.force(t), BAD);
+        }
+        Due.is("THE LAW stays", x.count(6), 0);
+        Due.text(x, "goes 1;turns 1;worth ;");
+        Due.is("a fault is no text", x.force(2), BAD);
+        for (int t = 2; t < 6; t++) {
+            Due.text(x, "goes 1;turns 1;worth 1;");
+            Due.is("text " + t, x.force(t), t == 2 ? 0 : t - 1);
+        }
     }
 
     private static void asks() {
+        Due.of("Promise 9", "What part 0 goes, 1 turns, 2 worth says");
         HatDownTheStreet x = new HatDownTheStreet();
-        Due.is("9: goes", x.asks(0, 92, 95, 24, 31), 9);
-        Due.is("9: turns", x.asks(1, 0, 0, 0, 0), 1);
-        Due.is("9: worth", x.asks(2, 0, 0, 24, 0), 6);
-        Due.is("9: worth at once", x.asks(2, 0, 0, 0, 0), 30);
+        Due.is("goes", x.asks(0, 92, 95, 24, 31), 9);
+        Due.is("turns", x.asks(1, 0, 0, 0, 0), 1);
+        Due.is("worth", x.asks(2, 0, 0, 24, 0), 6);
+        Due.is("worth at once", x.asks(2, 0, 0, 0, 0), 30);
+        Due.of("Promise 9", "-1000: none such.");
         int[][] bad = {
-            {-1, 0, 0, 0, 0}, {3, 0, 0, 0, 0}, {0, -1, 0, 0, 0}, {0, 3, 0, 0, 0}, {0, 93, 0, 0, 0}, {0, 100, 0, 0, 0},
-            {0, 0, -1, 0, 0}, {0, 0, 6, 0, 0}, {0, 0, 96, 0, 0}, {0, 0, 100, 0, 0}, {0, 0, 0, -1, 0}, {0, 0, 0, 25, 0},
-            {0, 0, 0, 0, -1}, {0, 0, 0, 0, 32}};
+            {-1, 0, 0, 0, 0}, {3, 0, 0, 0, 0}, {0, -1, 0, 0, 0}, {0, 3, 0, 0, 0}, {0, 9, 0, 0, 0}, {0, 13, 0, 0, 0}, {0, 93, 0, 0, 0},
+            {0, 100, 0, 0, 0}, {0, 0, -1, 0, 0}, {0, 0, 6, 0, 0}, {0, 0, 9, 0, 0}, {0, 0, 16, 0, 0}, {0, 0, 96, 0, 0},
+            {0, 0, 100, 0, 0}, {0, 0, 0, -1, 0}, {0, 0, 0, 25, 0}, {0, 0, 0, 0, -1}, {0, 0, 0, 0, 32}};
         for (int[] b : bad) {
-            Due.is("9: none such", x.asks(b[0], b[1], b[2], b[3], b[4]), -1000);
+            Due.is("none such", x.asks(b[0], b[1], b[2], b[3], b[4]), -1000);
         }
-        x = Due.withLaw("goes lie+2*more;turns kind;worth cell+100*second-strength;");
-        Due.is("9: names", x.asks(0, 92, 35, 7, 31), 8);
-        Due.is("9: goes has a bound", x.asks(0, 92, 95, 7, 31), 9);
-        Due.is("9: turns modulo 3", x.asks(1, 92, 95, 7, 31), 2);
-        Due.is("9: worth", x.asks(2, 90, 0, 0, 31), 22);
-        Due.is("9: worth has a bound", x.asks(2, 90, 0, 2, 31), 99);
         Due.walls(x, 31);
-        Due.is("9: also of a wall's square", x.asks(2, 90, 0, 0, 31), 22);
-        x = Due.withLaw("goes -1;turns -second;worth -second*10;");
-        Due.is("9: goes not below 0", x.asks(0, 0, 0, 0, 0), 0);
-        Due.is("9: turns of -1", x.asks(1, 0, 0, 1, 0), 2);
-        Due.is("9: turns of -3", x.asks(1, 0, 0, 3, 0), 0);
-        Due.is("9: worth has a lower bound", x.asks(2, 0, 0, 24, 0), -99);
+        Due.is("of a square with a wall, too", x.asks(2, 0, 0, 0, 31), 30);
     }
 
-    private static void value(String e, int worth) {
-        HatDownTheStreet x = Due.withLaw("goes 0;turns 0;worth " + e + ";");
-        Due.is("9: worth of " + e, x.asks(2, 41, 73, 24, 19), worth);
+    /** By a law, each of whose parts says one name, each number at its least and its most. */
+    private static void asksOfTheLaw() {
+        Due.of("Promise 9", "(howLie: 10 times strength, and lie, 0 .. 92; moreKind: 10 times more, and kind, 0 .. 95; second 0 .. 24; cell)");
+        String[] names = {"strength", "lie", "more", "kind", "second", "cell"};
+        int[][] asked = {{0, 0, 0, 0}, {92, 95, 24, 31}, {90, 0, 0, 0}, {2, 0, 0, 0}, {0, 90, 0, 0}, {0, 5, 0, 0}, {41, 73, 11, 17}};
+        for (int[] a : asked) {
+            int[] due = {a[0] / 10, a[0] % 10, a[1] / 10, a[1] % 10, a[2], a[3]};
+            for (int i = 0; i < names.length; i++) {
+                HatDownTheStreet x = Due.withLaw("goes " + names[i] + ";turns " + names[i] + ";worth " + names[i] + ";");
+                Due.is("goes " + names[i], x.asks(0, a[0], a[1], a[2], a[3]), Math.min(9, due[i]));
+                Due.is("turns " + names[i], x.asks(1, a[0], a[1], a[2], a[3]), due[i] % 3);
+                Due.is("worth " + names[i], x.asks(2, a[0], a[1], a[2], a[3]), due[i]);
+            }
+        }
     }
 
-    private static void values() {
-        value("1+2*3", 7);
-        value("(1+2)*3", 9);
-        value("10-3-2", 5);
-        value("10-(3-2)", 9);
-        value("-2*-3", 6);
-        value("--2", 2);
-        value("2-3", -1);
-        value("1<2", 1);
-        value("2<2", 0);
-        value("-1<0", 1);
-        value("2=2", 1);
-        value("1+1=2", 1);
-        value("2=1+2", 0);
-        value("5 or 0", 1);
-        value("0 or 0", 0);
-        value("5 and 7", 1);
-        value("5 and 0", 0);
-        value("0 and 0 or 1", 1);
-        value("1 or 0 and 0", 1);
-        value("(1 or 0) and 0", 0);
-        value("not 0", 1);
-        value("not 5", 0);
-        value("not not 5", 1);
-        value("not 1 = 2", 1);
-        value("(not 1) = 0", 1);
-        value("not 0 and 0", 0);
-        value("not (0 and 0)", 1);
-        value("strength", 4);
-        value("lie", 1);
-        value("more", 7);
-        value("kind", 3);
-        value("second", 24);
-        value("cell", 19);
-        value("0007", 7);
-        // 32 bits, wrapping: -1027349969.
-        value("9999*9999*9999 < 0", 1);
-        value("9999*9999*9999 + 9999*9999*10 + 9999*2761 - 9999*10 = 0", 0);
-        value("2048*2048*1024", 0);
-        value("1024*1024*2048 < 0 and 1024*1024*2048 = -(1024*1024*2048)", 1);
-        value("1or1and1<1+1*(1or1and1<1+1*(1or1and1<1+1*(1or1and1<1+1*(1or1and1<1+1*(0or1and1<1+1*7)))))", 1);
-        value("7-2*(3+4*(1-2*(2+3*(1-5*(2-3*9)))))", 99);
+    private static void asksAtItsEdges() {
+        Due.of("Promise 9", "What part 0 goes, 1 turns, 2 worth says");
+        HatDownTheStreet x = Due.withLaw("goes second - 3;turns second - 3;worth 95 + second;");
+        Due.is("goes below 0", x.asks(0, 0, 0, 2, 0), 0);
+        Due.is("goes 0", x.asks(0, 0, 0, 3, 0), 0);
+        Due.is("goes 1", x.asks(0, 0, 0, 4, 0), 1);
+        Due.is("goes 9", x.asks(0, 0, 0, 12, 0), 9);
+        Due.is("goes above 9", x.asks(0, 0, 0, 13, 0), 9);
+        Due.is("turns of -3", x.asks(1, 0, 0, 0, 0), 0);
+        Due.is("turns of -2", x.asks(1, 0, 0, 1, 0), 1);
+        Due.is("turns of -1", x.asks(1, 0, 0, 2, 0), 2);
+        Due.is("turns of 2", x.asks(1, 0, 0, 5, 0), 2);
+        Due.is("turns of 3", x.asks(1, 0, 0, 6, 0), 0);
+        Due.is("worth 98", x.asks(2, 0, 0, 3, 0), 98);
+        Due.is("worth 99", x.asks(2, 0, 0, 4, 0), 99);
+        Due.is("worth above 99", x.asks(2, 0, 0, 5, 0), 99);
+        x = Due.withLaw("goes 0;turns 0;worth -95 - second;");
+        Due.is("worth -98", x.asks(2, 0, 0, 3, 0), -98);
+        Due.is("worth -99", x.asks(2, 0, 0, 4, 0), -99);
+        Due.is("worth below -99", x.asks(2, 0, 0, 5, 0), -99);
     }
 }
