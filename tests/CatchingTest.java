@@ -1,6 +1,6 @@
 /** Promises 23 to 31: catching, what it is worth. */
 public final class CatchingTest {
-    private static final int UP = 0, RIGHT = 10, DOWN = 20, LEFT = 30, STILL = 40;
+    private static final int RIGHT = 10, DOWN = 20, LEFT = 30, STILL = 40;
     private static final int STATE = HatDownTheStreet.STATE;
     private static final int CAP = 20;
     private static final int[] NO_SUCH = {-1, 1, 4, Integer.MIN_VALUE, Integer.MAX_VALUE};
@@ -183,6 +183,8 @@ public final class CatchingTest {
         Due.walls(x, 30);
         x.does(0, 1, 4);
         stands("walls all around", x, -1, -1);
+        x.does(0, 0, 31);
+        stands("but in its own, where one is", x, -1, -1);
         x = still(0, 5, 0, 0);
         x.blow(0, 1, 1);
         x.blow(1, 3, 1);
@@ -232,7 +234,7 @@ public final class CatchingTest {
         x.does(0, 0, 18);
         x.does(0, 1, 1);
         // Beside 10, which it comes to behind 24; to 9 it is two squares.
-        Due.is("at once by two", x.caught(0, 0), 2);
+        Due.is("two squares far", x.caught(0, 0), 2);
         Due.is("none to lose", x.wait(0, 0), 0);
         x.does(0, 1, 0);
         x.does(0, 2, 1);
@@ -435,6 +437,15 @@ public final class CatchingTest {
         x.hat(17, 8, 1);
         x.come(8, 0, 0);
         Due.is("at once they are others", x.gain(0, 1), -99);
+        x = Due.withLaw("goes 0;turns 0;worth 10*strength+lie;");
+        x.come(0, 0, 0);
+        for (int lie = 0; lie <= 2; lie++) {
+            x.hat(0, 0, lie);
+            for (int pace = 0; pace <= 4; pace++) {
+                x.does(0, 1, pace);
+                Due.is("by pace " + pace + " lying " + lie, x.gain(lie, 0), 10 * pace + lie);
+            }
+        }
     }
 
     private static void whoms(String what, HatDownTheStreet x, int hat, int worth) {
@@ -482,6 +493,11 @@ public final class CatchingTest {
         Due.text(x, "goes 0;turns 0;worth 99 - 98 * (more = 2);");
         x.force(2);
         whoms("99", x, 0, 99);
+        Due.text(x, "goes 0;turns 0;worth 100 + more;");
+        x.force(3);
+        x.set(2, 0, 8);
+        // All are worth 99, as that is the most.
+        whoms("of like ones by the bound the first", x, 0, 99);
         Due.of("Promise 30", "-5: no such CATCHER; -7: what.");
         for (int what : new int[] {-1, 2, Integer.MIN_VALUE, Integer.MAX_VALUE}) {
             Due.is("what " + what, x.whom(0, what), -7);

@@ -41,8 +41,10 @@ public final class HatsTest {
         Due.is("full", x.hat(4, 8, 1), FULL);
         x.does(0, 2, 3);
         Due.is("one is had", x.run(2, 0), 0);
-        Due.is("there is room again", x.hat(44, 9, 2), 3);
-        Due.is("as told", x.told(3, 2), 4);
+        Due.is("there is room again", x.hat(0, 0, 0), 3);
+        for (int what = 0; what < 4; what++) {
+            Due.is("as told", x.told(3, what), 0);
+        }
         Due.is("full again", x.hat(4, 8, 1), FULL);
     }
 
@@ -78,6 +80,7 @@ public final class HatsTest {
             Due.is("it is in " + c, x.told(1, 0), c);
             was = c;
         }
+        Due.is("to where it is", x.set(1, 0, 31), 31);
         Due.is("it lies as it did", x.told(1, 1), 2);
         Due.is("on its crown", x.set(1, 1, 0), 2);
         Due.is("on its rim", x.set(1, 1, 1), 0);
@@ -205,6 +208,7 @@ public final class HatsTest {
             Due.is("reach " + reach, x.does(1, 2, reach), was);
             was = reach;
         }
+        Due.is("where one is", x.does(1, 0, 31), 31);
         Due.is("its square stays", x.does(1, 0, 0), 31);
         Due.is("the other's square", x.does(0, 0, 0), 5);
         Due.is("the other's pace", x.does(0, 1, 0), 1);

@@ -342,6 +342,13 @@ public final class HostTest {
         Due.is("13 in 39", x.gustsBy(2, 2, 0, 13), 13);
         Due.is("13 from 1", x.gustsBy(2, 2, 1, 13), -12);
         Due.is("12 from 3", x.gustsBy(2, 2, 3, 12), 12);
+        x.sheet(2, 2, 40);
+        Due.is("13 from 1 in 40", x.gustsBy(2, 2, 1, 13), 13);
+        Due.is("13 from 2 in 40", x.gustsBy(2, 2, 2, 13), -12);
+        Due.is("the last three of 40", x.gustsBy(2, 2, 37, 1), 1);
+        Due.is("the last two of 40", x.gustsBy(2, 2, 38, 1), -12);
+        x.sheet(2, 2, 2);
+        Due.is("of two numbers", x.gustsBy(2, 2, 0, 1), -12);
         x.sheet(2, 2, 0);
         Due.is("of no numbers", x.gustsBy(2, 2, 0, 1), -12);
     }

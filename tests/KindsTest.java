@@ -13,6 +13,7 @@ public final class KindsTest {
         leavesGo();
         wetOnesGo();
         theBound();
+        theTextsBound();
         lies();
         notGone();
         eddies();
@@ -119,6 +120,37 @@ public final class KindsTest {
         goes(LEAF, 9, BRIM, 9, 12);
         goes(BALL, 9, CROWN, 9, 12);
         goes(BOWLER, 8, RIM, 9, 12);
+    }
+
+    /** A text says 0 .. 9, and only then comes what a kind makes of it. */
+    private static void theTextsBound() {
+        Due.of("Terms, TEXTS", "(goes 0 .. 9, worth -99 .. 99, else the bound; turns: modulo 3, 0 .. 2 also of what is below 0)");
+        int[][] above = {{10 * HAT, CROWN, 3}, {10 * BOWLER, CROWN, 3}, {10 * CAP, CROWN, 1}, {10 * WET + 1, CROWN, 2},
+            {10 * WET + 5, RIM, 4}, {10 * WET + 9, BRIM, 0}, {10 * WET + 3, CROWN, 0}};
+        HatDownTheStreet x = Due.withLaw("goes 15;turns 0;worth 0;");
+        HatDownTheStreet y = Due.withLaw("goes -9;turns 0;worth 0;");
+        x.hat(0, 31, 0);
+        y.hat(0, 31, 0);
+        for (int[] hat : above) {
+            goesBy(x, hat[0], hat[1], hat[2]);
+        }
+        int[][] below = {{10 * HAT, RIM, 0}, {10 * BOWLER, RIM, 1}, {10 * BOWLER + 9, RIM, 3}, {10 * BOWLER, BRIM, 0}, {10 * CAP, RIM, 0},
+            {10 * BALL, CROWN, 1}, {10 * BALL + 4, BRIM, 2}, {10 * LEAF + 9, RIM, 0}, {10 * WET, RIM, 0}};
+        for (int[] hat : below) {
+            goesBy(y, hat[0], hat[1], hat[2]);
+        }
+    }
+
+    /** The street has one hat of its own; this one comes, goes in thought, and is had. */
+    private static void goesBy(HatDownTheStreet x, int kindMore, int lie, int due) {
+        if (x.count(1) == 0) {
+            x.come(8, 0, 0);
+            x.blow(0, 1, 0);
+        }
+        x.does(0, 0, 8);
+        int h = x.hat(kindMore, 8, lie);
+        Due.is("hat " + kindMore + " lying " + lie, x.at(h, 1, 0), 8 + due);
+        Due.is("it is had", x.run(h, 0), 0);
     }
 
     private static void lies() {
@@ -381,6 +413,15 @@ public final class KindsTest {
                 Due.is("by second " + second + ", behind " + n, x.at(0, n, 0), n <= second ? 8 : 10);
                 Due.is("it lies behind " + n, x.at(0, n, 1), n <= second ? RIM : BRIM);
             }
+        }
+        for (int second = 0; second < 24; second++) {
+            HatDownTheStreet x = new HatDownTheStreet();
+            x.hat(10 * HAT, 8, RIM);
+            Due.eddies(x, 8);
+            x.blow(second, 1, 1);
+            Due.is("in an eddy in second " + second, x.at(0, 24, 0), 16);
+            Due.puddles(x, 8);
+            Due.is("in a puddle in second " + second, x.at(0, 24, 0), 8);
         }
         HatDownTheStreet x = new HatDownTheStreet();
         x.hat(10 * BALL, 0, RIM);

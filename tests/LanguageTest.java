@@ -102,9 +102,15 @@ public final class LanguageTest {
         }
     }
 
+    /** Without comments, texts and signs, but with all its lines. */
     private static String bare() throws IOException {
         String s = Files.readString(SOURCE);
-        return s.replaceAll("(?s)/\\*.*?\\*/", "").replaceAll("//[^\n]*", "").replaceAll("\"[^\"\n]*\"", "\"\"");
+        Matcher m = Pattern.compile("(?s)/\\*.*?\\*/|//[^\n]*|\"(?:\\\\.|[^\"\\\\])*\"|'(?:\\\\.|[^'\\\\])*'").matcher(s);
+        StringBuilder bare = new StringBuilder();
+        while (m.find()) {
+            m.appendReplacement(bare, m.group().replaceAll("[^\n]", ""));
+        }
+        return m.appendTail(bare).toString();
     }
 
     /** Rules 2, 4, 6 and 13, as far as words show them. */
@@ -146,7 +152,7 @@ public final class LanguageTest {
         Due.is("braces are even", depth, 0);
     }
 
-    /** All calls of a run have one room: 7.3 million fields and elements, here of four bytes each. */
+    /** All calls of a run have one room: 600,000 objects, 7.3 million fields and elements, here of 16 and 4 bytes each. */
     private static void room() {
         com.sun.management.ThreadMXBean bean = (com.sun.management.ThreadMXBean) ManagementFactory.getThreadMXBean();
         long id = Thread.currentThread().getId();
@@ -155,7 +161,7 @@ public final class LanguageTest {
         dearRun();
         long bytes = bean.getThreadAllocatedBytes(id) - before;
         System.out.println("a run of 451 calls made " + bytes + " bytes");
-        Due.holds("a run has room", bytes < 4L * 7300000);
+        Due.holds("a run has room", bytes < 16L * 600000 + 4L * 7300000);
     }
 
     private static void dearRun() {

@@ -288,6 +288,10 @@ public final class LawTest {
         value("((((7))))", 7);
         value("7-2*(3+4*(1-2*(2+3*(1-5*(2-3*9)))))", 99);
         value("1or1and1<1+1*(1or1and1<1+1*(1or1and1<1+1*(1or1and1<1+1*(1or1and1<1+1*(0or1and1<1+1*7)))))", 1);
+        // The most that can wait for a right side at once, and what is right of all decides.
+        String wait = "0or1and0<0+1*(".repeat(5) + "0or1and0<0+1*";
+        value(wait + "7)))))", 1);
+        value(wait + "0)))))", 0);
         value("0or 1and 3<1+1*(0or 1and 3<1+1*(0or 1and 3<1+1*(0or 1and 3<1+1*(0or 1and 3<1+1*(0or 1and 8<2+1*7)))))", 0);
     }
 

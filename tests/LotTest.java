@@ -15,6 +15,7 @@ public final class LotTest {
         oddsRefused();
         image();
         back();
+        numbersAnew();
         backAgain();
         fourAndFour();
         whatNoImageKeeps();
@@ -319,8 +320,37 @@ public final class LotTest {
         for (int second = 0; second < 24; second++) {
             Due.is("no gust", x.wind(second), 40);
         }
-        Due.is("the first hat anew", x.hat(37, 12, 2), 0);
-        Due.is("and catcher", x.come(12, 1, 1), 0);
+        // Nothing is left of those that had these numbers.
+        Due.is("the first hat anew", x.hat(0, 0, 0), 0);
+        Due.is("and catcher", x.come(0, 0, 0), 0);
+        for (int what = 0; what < 4; what++) {
+            Due.is("told(0, " + what + ")", x.told(0, what), 0);
+        }
+        for (int what = 0; what < 3; what++) {
+            Due.is("does(0, " + what + ", 1)", x.does(0, what, 1), 0);
+        }
+    }
+
+    /** Hats and catchers that come to the numbers of others, which were in everything more. */
+    private static void numbersAnew() {
+        Due.of("Promise 46", "All that it keeps is as in THE IMAGE: how many HATS there are. STATE: there is none.");
+        HatDownTheStreet x = new HatDownTheStreet();
+        x.image();
+        for (int i = 0; i < 4; i++) {
+            x.hat(59, 31, 2);
+            x.come(31, 4, 3);
+        }
+        Due.is("none", x.back(), 0);
+        for (int i = 0; i < 4; i++) {
+            Due.is("a hat", x.hat(0, 0, 0), i);
+            Due.is("a catcher", x.come(0, 0, 0), i);
+            for (int what = 0; what < 4; what++) {
+                Due.is("told(" + i + ", " + what + ")", x.told(i, what), 0);
+            }
+            for (int what = 0; what < 3; what++) {
+                Due.is("does(" + i + ", " + what + ", 0)", x.does(i, what, 0), 0);
+            }
+        }
     }
 
     private static void backAgain() {

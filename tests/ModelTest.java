@@ -8,7 +8,7 @@ import java.util.Random;
 
 /** Runs of calls by lot, on the class and on the plain model: each answer must be the same. */
 public final class ModelTest {
-    private static final int RUNS = 1200;
+    private static final int RUNS = 600;
     private static final int CALLS = 512;
 
     /** For each call the least and the most of each number, mostly as the document tells them. */

@@ -15,6 +15,7 @@ public final class OtherwiseTest {
         turnedEdges();
         lull();
         lullEdges();
+        lullOfNoStrength();
         lullRefused();
         fence();
         fencePlaces();
@@ -114,7 +115,7 @@ public final class OtherwiseTest {
         Due.puddles(x, 9);
         Due.is("all day", x.save(0), 24);
         x.street(1, 9, 0);
-        Due.is("23, from second 0", x.save(0), 19);
+        Due.is("19 again", x.save(0), 19);
         Due.puddles(x, 13, 12, 11, 10);
         Due.is("all but one", x.save(0), 23);
         x = new HatDownTheStreet();
@@ -267,6 +268,19 @@ public final class OtherwiseTest {
         Due.gusts(x, RIGHT + 2, DOWN + 1, DOWN + 1, UP + 1, RIGHT + 1, RIGHT + 1);
         // 9, 17, 25, 17, 18, 19. Without second 1: 9, 17, 9, 10; without 2: the same; without 3: never.
         lulls("of like ones the first", x, 1, 5);
+    }
+
+    /** A ball goes 1 by no strength, too. */
+    private static void lullOfNoStrength() {
+        Due.of("Promise 35", "The SECOND by which, were its GUST's WAY 4, one would have HAD it first");
+        HatDownTheStreet x = new HatDownTheStreet();
+        x.hat(30, 9, 1);
+        x.come(9, 0, 0);
+        x.does(0, 0, 10);
+        Due.gusts(x, DOWN, RIGHT);
+        lulls("second 0", x, 0, 2);
+        x.does(0, 0, 17);
+        lulls("had now as by none", x, -1, 1);
     }
 
     private static void lullRefused() {

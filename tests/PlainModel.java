@@ -696,8 +696,9 @@ final class PlainModel {
         int[] c = w.catchers.get(p);
         int limit = (int) Math.pow(10, many);
         for (int number = 0; number < limit; number++) {
-            String digits = many == 0 ? "" : String.format("%0" + many + "d", number);
-            boolean isOrder = true;
+            // No order begins with a 0.
+            String digits = many == 0 ? "" : Integer.toString(number);
+            boolean isOrder = digits.length() == many;
             for (int h = 0; h < many; h++) isOrder &= digits.indexOf('1' + h) >= 0;
             if (!isOrder) continue;
             int square = c[0];

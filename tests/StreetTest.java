@@ -174,6 +174,7 @@ public final class StreetTest {
         Due.is("of none", x.blow(0, 3, 0), 43);
         Due.is("the last second", x.blow(23, 2, 1), 40);
         Due.is("again", x.blow(23, 4, 9), 21);
+        Due.is("the same again", x.blow(23, 4, 9), 49);
         Due.is("as it was", x.blow(23, 0, 0), 49);
         Due.is("second 0", x.wind(0), 30);
         Due.is("second 23", x.wind(23), 0);
