@@ -6,6 +6,7 @@ public final class KindsTest {
     private static final String KINDS = "Terms, KINDS", SECOND = "Terms, a SECOND", BEHIND = "Terms, BEHIND";
 
     public static void main(String[] args) {
+        asItLies();
         hatsGo();
         bowlersGo();
         capsGo();
@@ -34,6 +35,26 @@ public final class KindsTest {
         x.hat(10 * kind + more, 8, lie);
         Due.gusts(x, RIGHT + says);
         Due.is("kind " + kind + " with " + more + " lying " + lie + " by " + says, x.at(0, 1, 0), 8 + Math.min(7, due));
+    }
+
+    /** Each second anew: what lay on its crown may lie on its rim in the next one, and go farther. */
+    private static void asItLies() {
+        Due.of(KINDS, "KINDS: how far one GOES, the text saying so much, as it LIES;");
+        int[][] due = {{HAT, 16, 17, 20, 23}, {BOWLER, 16, 17, 21, 23}, {CAP, 16, 17, 18, 19}, {BALL, 16, 20, 23, 23},
+            {LEAF, 16, 19, 22, 23}, {WET, 16, 17, 20, 23}};
+        for (int[] squares : due) {
+            HatDownTheStreet x = new HatDownTheStreet();
+            x.hat(10 * squares[0], 16, CROWN);
+            Due.gusts(x, RIGHT + 3, RIGHT + 3, RIGHT + 3);
+            for (int n = 0; n <= 3; n++) {
+                Due.is("kind " + squares[0] + ", behind " + n, x.at(0, n, 0), squares[n + 1]);
+            }
+            x = Due.withLaw("goes strength*2;turns 1;worth 0;");
+            x.hat(10 * squares[0], 16, CROWN);
+            Due.gusts(x, RIGHT + 1);
+            Due.is("kind " + squares[0] + ", the text saying twice as much", x.at(0, 1, 0),
+                squares[0] == BALL ? 19 : squares[0] == LEAF ? 18 : squares[0] == CAP ? 17 : 16);
+        }
     }
 
     private static void hatsGo() {

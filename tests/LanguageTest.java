@@ -30,6 +30,7 @@ public final class LanguageTest {
 
     public static void main(String[] args) throws Exception {
         face();
+        constants();
         classes();
         words();
         lengths();
@@ -71,6 +72,24 @@ public final class LanguageTest {
                 Due.holds(k.getSimpleName() + "." + m.getName() + " bears no public name", isOwn || !names.contains(m.getName()));
             }
         }
+    }
+
+    private static void constants() throws Exception {
+        Due.of("The public face", "public static final int NONE = -1, BAD = -2, STATE = -3, FULL = -4;");
+        String[] names = {"NONE", "BAD", "STATE", "FULL"};
+        for (int i = 0; i < names.length; i++) {
+            constant(names[i], int.class, -1 - i);
+        }
+        Due.of("The public face", "public static final long NO = -4611686018427387904L;");
+        constant("NO", long.class, -4611686018427387904L);
+    }
+
+    private static void constant(String name, Class<?> type, long value) throws Exception {
+        Field f = HatDownTheStreet.class.getDeclaredField(name);
+        int is = f.getModifiers();
+        Due.holds(name + " is public, static, final", is == (Modifier.PUBLIC | Modifier.STATIC | Modifier.FINAL));
+        Due.holds(name + " is of its type", f.getType() == type);
+        Due.is(name, f.getLong(null), value);
     }
 
     private static List<Class<?>> everyClass() {
